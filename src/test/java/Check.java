@@ -1,20 +1,40 @@
 /** What the tests share: counting the answers that are not as due, and ending with the verdict. */
 final class Check {
-    /** Values that are outside every range of the document. */
-    static final int[] OUTSIDE = {-1, 32, 33, 63, 64, -32, 1 << 16, Integer.MAX_VALUE, Integer.MIN_VALUE};
+    // So that one broken sentence does not hide the next.
+    private static final int SHOWN_OF_EACH = 10;
 
     private static int wrong = 0;
     private static int made = 0;
+    private static int shown = 0;
+    private static int madeBeforeSentence = -1;
+    private static String sentence = "";
 
     private Check() {
+    }
+
+    /** What follows tests this sentence of the document, until the next one is named. */
+    static void sentence(String words) {
+        sentenceWasTested();
+        sentence = words;
+        madeBeforeSentence = made;
+        shown = 0;
+    }
+
+    private static void sentenceWasTested() {
+        if (made == madeBeforeSentence) {
+            wrong++;
+            System.out.println("nothing was tested of: " + sentence);
+        }
     }
 
     static void due(String call, int got, int want) {
         made++;
         if (got != want) {
             wrong++;
-            if (wrong <= 50) {
-                System.out.println(call + " answered " + got + ", due is " + want);
+            if (shown < SHOWN_OF_EACH) {
+                shown++;
+                String where = sentence.isEmpty() ? "" : "[" + sentence + "] ";
+                System.out.println(where + call + " answered " + got + ", due is " + want);
             }
         }
     }
@@ -39,6 +59,7 @@ final class Check {
     }
 
     static void end() {
+        sentenceWasTested();
         if (made == 0) {
             System.out.println("nothing was tested");
             System.exit(1);

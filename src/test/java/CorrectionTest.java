@@ -4,12 +4,10 @@ import java.util.Arrays;
 public final class CorrectionTest {
     public static void main(String[] args) {
         distance();
-        distanceRefused();
         smallErrors(1);
         smallErrors(2);
         rankTwoErrors();
         beyondRadius();
-        messageArguments();
         clean();
         Check.end();
     }
@@ -24,21 +22,6 @@ public final class CorrectionTest {
                 int want = Reference.distance(new int[] {3, 9, 27, 14, 2}, Reference.codeWord(m0, m1));
                 Check.due("distance(" + m0 + ", " + m1 + ")", code.distance(m0, m1), want);
             }
-        }
-    }
-
-    private static void distanceRefused() {
-        for (int k = 1; k <= 2; k++) {
-            RankMetricCode code = Check.withWord(k, 3, 9, 27, 14, 2);
-            for (int bad : Check.OUTSIDE) {
-                Check.due("distance(" + bad + ", 0)", code.distance(bad, 0), -1);
-                Check.due("distance(0, " + bad + ")", code.distance(0, bad), -1);
-            }
-            for (int m1 = 1; m1 < 32; m1++) {
-                int want = k == 1 ? -1 : Reference.distance(new int[] {3, 9, 27, 14, 2}, Reference.codeWord(0, m1));
-                Check.due("K " + k + ": distance(0, " + m1 + ")", code.distance(0, m1), want);
-            }
-            Check.wordIs("after refused distances", code, 3, 9, 27, 14, 2);
         }
     }
 
@@ -121,21 +104,6 @@ public final class CorrectionTest {
         Check.due(what + ": correct()", code.correct(), -4);
         Check.due(what + ": clean()", code.clean(), false);
         Check.wordIs(what + " after refusals", code, symbols);
-    }
-
-    private static void messageArguments() {
-        for (int k = 1; k <= 2; k++) {
-            RankMetricCode code = new RankMetricCode(k);
-            code.encode(9, k == 1 ? 0 : 22);
-            Check.due("message(0)", code.message(0), 9);
-            Check.due("message(1)", code.message(1), k == 1 ? -1 : 22);
-            for (int bad : Check.OUTSIDE) {
-                Check.due("message(" + bad + ")", code.message(bad), -1);
-            }
-            for (int i = 2; i < 8; i++) {
-                Check.due("message(" + i + ")", code.message(i), -1);
-            }
-        }
     }
 
     private static void clean() {

@@ -34,11 +34,6 @@ public final class CountsTest {
         for (int r = 0; r <= 5; r++) {
             Check.due("K " + k + ": census(" + r + ")", code.census(r), want[r]);
         }
-        Check.due("census(6)", code.census(6), 0);
-        for (int bad : Check.OUTSIDE) {
-            Check.due("census(" + bad + ")", code.census(bad), 0);
-        }
-        Check.due("census(-4)", code.census(-4), 0);
         Check.wordIs("after census()", code, 3, 9, 27, 14, 2);
         code.encode(1, 0);
         Check.due("K " + k + ": census(5) with another word", code.census(5), want[5]);

@@ -5,6 +5,8 @@ public final class LongRunsTest {
     // The reference is slow at these, so long runs ask for them less often.
     private static final int FIRST_SLOW = 12;
 
+    private static final int[] OUTSIDE = Edges.outside(0, 31);
+
     private static long state;
 
     public static void main(String[] args) {
@@ -29,7 +31,7 @@ public final class LongRunsTest {
 
     /** Mostly an element, now and then what is outside. */
     private static int element() {
-        return next(25) == 0 ? Check.OUTSIDE[next(Check.OUTSIDE.length)] : next(32);
+        return next(25) == 0 ? OUTSIDE[next(OUTSIDE.length)] : next(32);
     }
 
     private static int place() {

@@ -31,6 +31,22 @@ final class Reference {
         return whole;
     }
 
+    static int times(int a, int b) {
+        return in(a, 31) && in(b, 31) ? product(a, b) : BAD_ARG;
+    }
+
+    /** By the 30th power of b, since the 31st is 1. */
+    static int over(int a, int b) {
+        if (!in(a, 31) || !in(b, 31) || b == 0) {
+            return BAD_ARG;
+        }
+        int quotient = a;
+        for (int factor = 0; factor < 30; factor++) {
+            quotient = product(quotient, b);
+        }
+        return quotient;
+    }
+
     static int[] codeWord(int m0, int m1) {
         int[] symbols = new int[5];
         for (int i = 0; i < 5; i++) {
@@ -116,6 +132,10 @@ final class Reference {
         int before = word[i];
         word[i] = c;
         return before;
+    }
+
+    int symbol(int i) {
+        return in(i, 4) ? word[i] : BAD_ARG;
     }
 
     int disturb(int a, int set) {

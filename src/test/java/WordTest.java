@@ -4,7 +4,6 @@ public final class WordTest {
         encodeAll(1);
         encodeAll(2);
         for (int k = 1; k <= 2; k++) {
-            encodeRefused(k);
             putAndSymbol(k);
             disturb(k);
             rank(k);
@@ -23,19 +22,6 @@ public final class WordTest {
         }
     }
 
-    private static void encodeRefused(int k) {
-        RankMetricCode code = Check.withWord(k, 3, 9, 27, 14, 2);
-        for (int bad : Check.OUTSIDE) {
-            Check.due("encode(" + bad + ", 0)", code.encode(bad, 0), -1);
-            Check.due("encode(1, " + bad + ")", code.encode(1, bad), -1);
-            Check.due("encode(" + bad + ", itself)", code.encode(bad, bad), -1);
-        }
-        for (int m1 = 1; m1 < 32 && k == 1; m1++) {
-            Check.due("K 1: encode(0, " + m1 + ")", code.encode(0, m1), -1);
-        }
-        Check.wordIs("after refused encodes", code, 3, 9, 27, 14, 2);
-    }
-
     private static void putAndSymbol(int k) {
         RankMetricCode code = new RankMetricCode(k);
         Check.due("put(0, 31)", code.put(0, 31), 0);
@@ -45,16 +31,6 @@ public final class WordTest {
         Check.due("put(2, 1)", code.put(2, 1), 0);
         Check.due("put(2, 0)", code.put(2, 0), 1);
         Check.wordIs("after puts", code, 7, 0, 0, 0, 12);
-        for (int bad : Check.OUTSIDE) {
-            Check.due("put(" + bad + ", 1)", code.put(bad, 1), -1);
-            Check.due("put(0, " + bad + ")", code.put(0, bad), -1);
-            Check.due("symbol(" + bad + ")", code.symbol(bad), -1);
-        }
-        for (int i = 5; i < 32; i++) {
-            Check.due("put(" + i + ", 1)", code.put(i, 1), -1);
-            Check.due("symbol(" + i + ")", code.symbol(i), -1);
-        }
-        Check.wordIs("after refused puts", code, 7, 0, 0, 0, 12);
     }
 
     private static void disturb(int k) {
@@ -69,11 +45,6 @@ public final class WordTest {
         Check.wordIs("after a third one", code, 0, 4, 4, 14, 0);
         Check.due("disturb(6, 10) again", code.disturb(6, 10), 3);
         Check.wordIs("after undoing it", code, 0, 2, 4, 8, 0);
-        for (int bad : Check.OUTSIDE) {
-            Check.due("disturb(" + bad + ", 31)", code.disturb(bad, 31), -1);
-            Check.due("disturb(31, " + bad + ")", code.disturb(31, bad), -1);
-        }
-        Check.wordIs("after refused disturbs", code, 0, 2, 4, 8, 0);
         Check.due("disturb(31, 31)", code.disturb(31, 31), 4);
         Check.wordIs("after disturbing all", code, 31, 29, 27, 23, 31);
     }
