@@ -5,35 +5,37 @@ public final class BoundaryArgumentsTest {
     private static final int[] NOT_A_PLACE = Edges.outside(0, 4);
 
     public static void main(String[] args) {
-        newWord();
-        kBelowOne();
-        kAboveTwo();
-        kWithin();
-        timesRange();
-        overRange();
-        overZero();
-        encodeFirst();
-        encodeSecond();
-        encodeSecondIfKIsOne();
-        encodeOtherwise();
-        putPlace();
-        putSymbol();
-        putOtherwise();
-        symbolRange();
-        disturbAddend();
-        disturbSet();
-        disturbOtherwise();
-        distanceFirst();
-        distanceSecond();
-        distanceSecondIfKIsOne();
-        distanceOtherwise();
-        messageRange();
-        censusRange();
+        Check.sentence("1: The word is 0 0 0 0 0.", BoundaryArgumentsTest::newWord);
+        Check.sentence("1: k below 1 becomes 1", BoundaryArgumentsTest::kBelowOne);
+        Check.sentence("1: k above 2 becomes 2", BoundaryArgumentsTest::kAboveTwo);
+        Check.sentence("2: size: K", BoundaryArgumentsTest::kWithin);
+        Check.sentence("3: times: BAD_ARG if one of them is not 0 to 31", BoundaryArgumentsTest::timesRange);
+        Check.sentence("4: over: BAD_ARG if a or b is not 0 to 31", BoundaryArgumentsTest::overRange);
+        Check.sentence("4: over: BAD_ARG if b is 0", BoundaryArgumentsTest::overZero);
+        Check.sentence("5: encode: BAD_ARG if m0 is not 0 to 31", BoundaryArgumentsTest::encodeFirst);
+        Check.sentence("5: encode: BAD_ARG if m1 is not 0 to 31", BoundaryArgumentsTest::encodeSecond);
+        Check.sentence("5: encode: BAD_ARG if K is 1 and m1 is not 0", BoundaryArgumentsTest::encodeSecondIfKIsOne);
+        Check.sentence("5: encode: Otherwise 0.", BoundaryArgumentsTest::encodeOtherwise);
+        Check.sentence("6: put: BAD_ARG if i is not 0 to 4", BoundaryArgumentsTest::putPlace);
+        Check.sentence("6: put: BAD_ARG if c is not 0 to 31", BoundaryArgumentsTest::putSymbol);
+        Check.sentence("6: put: Otherwise the symbol before.", BoundaryArgumentsTest::putOtherwise);
+        Check.sentence("7: symbol: BAD_ARG if i is not 0 to 4", BoundaryArgumentsTest::symbolRange);
+        Check.sentence("8: disturb: BAD_ARG if a is not 0 to 31", BoundaryArgumentsTest::disturbAddend);
+        Check.sentence("8: disturb: BAD_ARG if set is not 0 to 31", BoundaryArgumentsTest::disturbSet);
+        Check.sentence("8: disturb: Otherwise the rank of the word afterwards.",
+                BoundaryArgumentsTest::disturbOtherwise);
+        Check.sentence("10: distance: BAD_ARG as for encode: m0 is not 0 to 31", BoundaryArgumentsTest::distanceFirst);
+        Check.sentence("10: distance: BAD_ARG as for encode: m1 is not 0 to 31", BoundaryArgumentsTest::distanceSecond);
+        Check.sentence("10: distance: BAD_ARG as for encode: K is 1 and m1 is not 0",
+                BoundaryArgumentsTest::distanceSecondIfKIsOne);
+        Check.sentence("10: distance: The distance of the word from the code word of the message m0, m1",
+                BoundaryArgumentsTest::distanceOtherwise);
+        Check.sentence("12: message: i not 0 to K - 1 answers BAD_ARG", BoundaryArgumentsTest::messageRange);
+        Check.sentence("16: census: 0 if r is not 0 to 5", BoundaryArgumentsTest::censusRange);
         Check.end();
     }
 
     private static void newWord() {
-        Check.sentence("1: The word is 0 0 0 0 0.");
         for (int k : Edges.around(1, 2)) {
             RankMetricCode code = new RankMetricCode(k);
             Check.wordIs("new RankMetricCode(" + k + ")", code, 0, 0, 0, 0, 0);
@@ -41,21 +43,18 @@ public final class BoundaryArgumentsTest {
     }
 
     private static void kBelowOne() {
-        Check.sentence("1: k below 1 becomes 1");
         for (int k : new int[] {0, -1, -2, -3, 1 - 256, 2 - 256, 2 - 65536, Edges.MIN + 2, Edges.MIN + 1, Edges.MIN}) {
             behavesAs(1, k);
         }
     }
 
     private static void kAboveTwo() {
-        Check.sentence("1: k above 2 becomes 2");
         for (int k : new int[] {3, 4, 5, 1 + 256, 1 + 65536, 1 + (1 << 24), Edges.MAX - 1, Edges.MAX}) {
             behavesAs(2, k);
         }
     }
 
     private static void kWithin() {
-        Check.sentence("2: size: K");
         behavesAs(1, 1);
         behavesAs(2, 2);
     }
@@ -77,7 +76,6 @@ public final class BoundaryArgumentsTest {
     }
 
     private static void timesRange() {
-        Check.sentence("3: times: BAD_ARG if one of them is not 0 to 31");
         for (int bad : NOT_IN_FIELD) {
             for (int other : Edges.around(0, 31)) {
                 Edges.refused("times(" + bad + ", " + other + ")", code -> code.times(bad, other));
@@ -92,7 +90,6 @@ public final class BoundaryArgumentsTest {
     }
 
     private static void overRange() {
-        Check.sentence("4: over: BAD_ARG if a or b is not 0 to 31");
         for (int bad : NOT_IN_FIELD) {
             for (int other : Edges.around(0, 31)) {
                 Edges.refused("over(" + bad + ", " + other + ")", code -> code.over(bad, other));
@@ -108,7 +105,6 @@ public final class BoundaryArgumentsTest {
     }
 
     private static void overZero() {
-        Check.sentence("4: over: BAD_ARG if b is 0");
         for (int a = 0; a < 32; a++) {
             int dividend = a;
             Edges.refused("over(" + a + ", 0)", code -> code.over(dividend, 0));
@@ -120,7 +116,6 @@ public final class BoundaryArgumentsTest {
     }
 
     private static void encodeFirst() {
-        Check.sentence("5: encode: BAD_ARG if m0 is not 0 to 31");
         for (int bad : NOT_IN_FIELD) {
             Edges.refused("encode(" + bad + ", 0)", code -> code.encode(bad, 0));
             Edges.refused("encode(" + bad + ", 31)", code -> code.encode(bad, 31));
@@ -128,7 +123,6 @@ public final class BoundaryArgumentsTest {
     }
 
     private static void encodeSecond() {
-        Check.sentence("5: encode: BAD_ARG if m1 is not 0 to 31");
         for (int bad : NOT_IN_FIELD) {
             for (int m0 : Edges.around(0, 31)) {
                 Edges.refused("encode(" + m0 + ", " + bad + ")", code -> code.encode(m0, bad));
@@ -137,7 +131,6 @@ public final class BoundaryArgumentsTest {
     }
 
     private static void encodeSecondIfKIsOne() {
-        Check.sentence("5: encode: BAD_ARG if K is 1 and m1 is not 0");
         for (int m = 1; m < 32; m++) {
             int m1 = m;
             for (int m0 : IN_FIELD) {
@@ -147,7 +140,6 @@ public final class BoundaryArgumentsTest {
     }
 
     private static void encodeOtherwise() {
-        Check.sentence("5: encode: Otherwise 0.");
         for (int m0 : IN_FIELD) {
             encodes(1, m0, 0);
             for (int m1 : IN_FIELD) {
@@ -166,7 +158,6 @@ public final class BoundaryArgumentsTest {
     }
 
     private static void putPlace() {
-        Check.sentence("6: put: BAD_ARG if i is not 0 to 4");
         for (int bad : NOT_A_PLACE) {
             for (int c : Edges.around(0, 31)) {
                 Edges.refused("put(" + bad + ", " + c + ")", code -> code.put(bad, c));
@@ -175,7 +166,6 @@ public final class BoundaryArgumentsTest {
     }
 
     private static void putSymbol() {
-        Check.sentence("6: put: BAD_ARG if c is not 0 to 31");
         for (int bad : NOT_IN_FIELD) {
             for (int i = 0; i < 5; i++) {
                 int place = i;
@@ -185,7 +175,6 @@ public final class BoundaryArgumentsTest {
     }
 
     private static void putOtherwise() {
-        Check.sentence("6: put: Otherwise the symbol before.");
         for (int k = 1; k <= 2; k++) {
             for (int i = 0; i < 5; i++) {
                 int[] want = {3, 9, 27, 14, 2};
@@ -201,7 +190,6 @@ public final class BoundaryArgumentsTest {
     }
 
     private static void symbolRange() {
-        Check.sentence("7: symbol: BAD_ARG if i is not 0 to 4");
         for (int bad : NOT_A_PLACE) {
             Edges.refused("symbol(" + bad + ")", code -> code.symbol(bad));
         }
@@ -215,7 +203,6 @@ public final class BoundaryArgumentsTest {
     }
 
     private static void disturbAddend() {
-        Check.sentence("8: disturb: BAD_ARG if a is not 0 to 31");
         for (int bad : NOT_IN_FIELD) {
             for (int set : Edges.around(0, 31)) {
                 Edges.refused("disturb(" + bad + ", " + set + ")", code -> code.disturb(bad, set));
@@ -224,7 +211,6 @@ public final class BoundaryArgumentsTest {
     }
 
     private static void disturbSet() {
-        Check.sentence("8: disturb: BAD_ARG if set is not 0 to 31");
         for (int bad : NOT_IN_FIELD) {
             for (int a : IN_FIELD) {
                 Edges.refused("disturb(" + a + ", " + bad + ")", code -> code.disturb(a, bad));
@@ -233,7 +219,6 @@ public final class BoundaryArgumentsTest {
     }
 
     private static void disturbOtherwise() {
-        Check.sentence("8: disturb: Otherwise the rank of the word afterwards.");
         for (int k = 1; k <= 2; k++) {
             for (int a : IN_FIELD) {
                 for (int set : new int[] {0, 1, 2, 4, 8, 16, 30, 31}) {
@@ -257,7 +242,6 @@ public final class BoundaryArgumentsTest {
     }
 
     private static void distanceFirst() {
-        Check.sentence("10: distance: BAD_ARG as for encode: m0 is not 0 to 31");
         for (int bad : NOT_IN_FIELD) {
             Edges.refused("distance(" + bad + ", 0)", code -> code.distance(bad, 0));
             Edges.refused("distance(" + bad + ", 31)", code -> code.distance(bad, 31));
@@ -265,7 +249,6 @@ public final class BoundaryArgumentsTest {
     }
 
     private static void distanceSecond() {
-        Check.sentence("10: distance: BAD_ARG as for encode: m1 is not 0 to 31");
         for (int bad : NOT_IN_FIELD) {
             for (int m0 : Edges.around(0, 31)) {
                 Edges.refused("distance(" + m0 + ", " + bad + ")", code -> code.distance(m0, bad));
@@ -274,7 +257,6 @@ public final class BoundaryArgumentsTest {
     }
 
     private static void distanceSecondIfKIsOne() {
-        Check.sentence("10: distance: BAD_ARG as for encode: K is 1 and m1 is not 0");
         for (int m = 1; m < 32; m++) {
             int m1 = m;
             for (int m0 : IN_FIELD) {
@@ -284,7 +266,6 @@ public final class BoundaryArgumentsTest {
     }
 
     private static void distanceOtherwise() {
-        Check.sentence("10: distance: The distance of the word from the code word of the message m0, m1");
         for (int[] symbols : Edges.WORDS) {
             for (int m0 : IN_FIELD) {
                 for (int m1 : IN_FIELD) {
@@ -300,7 +281,6 @@ public final class BoundaryArgumentsTest {
     }
 
     private static void messageRange() {
-        Check.sentence("12: message: i not 0 to K - 1 answers BAD_ARG");
         for (int k = 1; k <= 2; k++) {
             for (int bad : Edges.outside(0, k - 1)) {
                 Edges.refused(k, "message(" + bad + ")", code -> code.message(bad));
@@ -314,7 +294,6 @@ public final class BoundaryArgumentsTest {
     }
 
     private static void censusRange() {
-        Check.sentence("16: census: 0 if r is not 0 to 5");
         for (int bad : Edges.outside(0, 5)) {
             keepsAtBothK("census(" + bad + ")", code -> code.census(bad), 0);
         }

@@ -6,12 +6,17 @@ public final class BoundaryCallsTest {
     private static final int CALLS = 512;
 
     public static void main(String[] args) {
-        noCallThrows();
-        refusedCallChangesNothing();
-        readingCallChangesNothing();
-        lastCallAfterRefusedOnes();
-        lastCallAfterItself();
-        lastChange();
+        Check.sentence("Terms: No call ever throws.", BoundaryCallsTest::noCallThrows);
+        Check.sentence("Terms: A refused call answers the code named and changes nothing.",
+                BoundaryCallsTest::refusedCallChangesNothing);
+        Check.sentence("2 to 4, 7, 9 to 12, 14 to 16: a call that only answers leaves the word",
+                BoundaryCallsTest::readingCallChangesNothing);
+        Check.sentence("What it is: at most 512 calls: refused ones count, and the last is answered",
+                BoundaryCallsTest::lastCallAfterRefusedOnes);
+        Check.sentence("What it is: at most 512 calls: the same call up to the last",
+                BoundaryCallsTest::lastCallAfterItself);
+        Check.sentence("What it is: at most 512 calls: errors made and set right up to the last",
+                BoundaryCallsTest::lastChange);
         Check.end();
     }
 
@@ -66,7 +71,6 @@ public final class BoundaryCallsTest {
     }
 
     private static void noCallThrows() {
-        Check.sentence("Terms: No call ever throws.");
         for (int k : new int[] {Edges.MIN, 0, 1, 2, 3, Edges.MAX}) {
             for (int[] symbols : Edges.WORDS) {
                 for (Both both : everyCall()) {
@@ -84,7 +88,6 @@ public final class BoundaryCallsTest {
     }
 
     private static void refusedCallChangesNothing() {
-        Check.sentence("Terms: A refused call answers the code named and changes nothing.");
         for (int k = 1; k <= 2; k++) {
             for (int[] symbols : Edges.WORDS) {
                 Reference reference = new Reference(k);
@@ -100,7 +103,6 @@ public final class BoundaryCallsTest {
     }
 
     private static void readingCallChangesNothing() {
-        Check.sentence("2 to 4, 7, 9 to 12, 14 to 16: a call that only answers leaves the word");
         for (int k = 1; k <= 2; k++) {
             for (int[] symbols : Edges.WORDS) {
                 Reference reference = new Reference(k);
@@ -134,7 +136,6 @@ public final class BoundaryCallsTest {
     }
 
     private static void lastCallAfterRefusedOnes() {
-        Check.sentence("What it is: at most 512 calls: refused ones count, and the last is answered");
         for (int k = 1; k <= 2; k++) {
             for (Both both : oneOfEach()) {
                 RankMetricCode code = Check.withWord(k, 31, 30, 28, 24, 16);
@@ -165,7 +166,6 @@ public final class BoundaryCallsTest {
     }
 
     private static void lastCallAfterItself() {
-        Check.sentence("What it is: at most 512 calls: the same call up to the last");
         for (int k = 1; k <= 2; k++) {
             for (Both both : oneOfEach()) {
                 RankMetricCode code = new RankMetricCode(k);
@@ -179,7 +179,6 @@ public final class BoundaryCallsTest {
     }
 
     private static void lastChange() {
-        Check.sentence("What it is: at most 512 calls: errors made and set right up to the last");
         for (int k = 1; k <= 2; k++) {
             RankMetricCode code = new RankMetricCode(k);
             code.encode(19, k == 1 ? 0 : 28);

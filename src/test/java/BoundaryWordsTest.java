@@ -3,30 +3,38 @@ import java.util.Arrays;
 /** Each sentence of the document that names a boundary of what the word may be, a test of its own. */
 public final class BoundaryWordsTest {
     public static void main(String[] args) {
-        productWrapsAround();
-        squareWrapsAround();
-        disturbNothing();
-        disturbLowestDigit();
-        rankAtItsEnds();
-        rankCountsNoSumOfZero();
-        errorsAtMostT();
-        errorsElseNone();
-        errorsNearest();
-        messageOrder();
-        messageNone();
-        messageAtT();
-        correctNone();
-        correctOldDistance();
-        cleanCodeWord();
-        coveringsOfCodeWord();
-        coveringsAtLeast();
-        coveringsOnePlace();
-        censusOfAllRanks();
+        Check.sentence("Terms: reduced modulo z^5 + z^2 + 1. So 2 times 16 is 5.",
+                BoundaryWordsTest::productWrapsAround);
+        Check.sentence("Terms: c i = m0 times g i + m1 times the square of g i", BoundaryWordsTest::squareWrapsAround);
+        Check.sentence("8: disturb: an empty set, or nothing to add, changes no symbol",
+                BoundaryWordsTest::disturbNothing);
+        Check.sentence("8: disturb: digit 0 is the lowest", BoundaryWordsTest::disturbLowestDigit);
+        Check.sentence("9: rank: The rank of the word, 0 to 5.", BoundaryWordsTest::rankAtItsEnds);
+        Check.sentence("Terms: no sum of one or more of these (each taken once) is 0",
+                BoundaryWordsTest::rankCountsNoSumOfZero);
+        Check.sentence("Terms: at most one code word has distance T or less from a word.",
+                BoundaryWordsTest::atMostOneWithinT);
+        Check.sentence("11: errors: The distance of the word from the nearest code word if that is at most T",
+                BoundaryWordsTest::errorsAtMostT);
+        Check.sentence("11: errors: else NONE", BoundaryWordsTest::errorsElseNone);
+        Check.sentence("11: errors: the nearest code word", BoundaryWordsTest::errorsNearest);
+        Check.sentence("12: message: Tested in this order: BAD_ARG, then NONE", BoundaryWordsTest::messageOrder);
+        Check.sentence("12: message: no such code word answers NONE", BoundaryWordsTest::messageNone);
+        Check.sentence("12: message: Element number i of the message whose code word has a distance of at most T",
+                BoundaryWordsTest::messageAtT);
+        Check.sentence("13: correct: NONE if there is none.", BoundaryWordsTest::correctNone);
+        Check.sentence("13: correct: Otherwise its old distance.", BoundaryWordsTest::correctOldDistance);
+        Check.sentence("14: clean: Whether the word is a code word.", BoundaryWordsTest::cleanCodeWord);
+        Check.sentence("15: coverings: sets S, numbers 0 to 31: all of them if no symbol need change",
+                BoundaryWordsTest::coveringsOfCodeWord);
+        Check.sentence("15: coverings: the fewest: K symbols left alone can always be those of a code word",
+                BoundaryWordsTest::coveringsAtLeast);
+        Check.sentence("15: coverings: digit i for place i", BoundaryWordsTest::coveringsOnePlace);
+        Check.sentence("16: census: How many code words have the rank r", BoundaryWordsTest::censusOfAllRanks);
         Check.end();
     }
 
     private static void productWrapsAround() {
-        Check.sentence("Terms: reduced modulo z^5 + z^2 + 1. So 2 times 16 is 5.");
         int[][] products = {{2, 8, 16}, {2, 16, 5}, {4, 16, 10}, {8, 16, 20}, {16, 16, 13}, {2, 31, 27}, {31, 31, 18}};
         for (int k = 1; k <= 2; k++) {
             RankMetricCode code = new RankMetricCode(k);
@@ -40,7 +48,6 @@ public final class BoundaryWordsTest {
     }
 
     private static void squareWrapsAround() {
-        Check.sentence("Terms: c i = m0 times g i + m1 times the square of g i");
         encodesAs(1, 1, 0, 1, 2, 4, 8, 16);
         encodesAs(1, 31, 0, 31, 27, 19, 3, 6);
         encodesAs(2, 0, 1, 1, 4, 16, 10, 13);
@@ -58,7 +65,6 @@ public final class BoundaryWordsTest {
     }
 
     private static void disturbNothing() {
-        Check.sentence("8: disturb: an empty set, or nothing to add, changes no symbol");
         for (int[] symbols : Edges.WORDS) {
             for (int n = 0; n < 32; n++) {
                 int any = n;
@@ -70,7 +76,6 @@ public final class BoundaryWordsTest {
     }
 
     private static void disturbLowestDigit() {
-        Check.sentence("8: disturb: digit 0 is the lowest");
         for (int k = 1; k <= 2; k++) {
             RankMetricCode code = new RankMetricCode(k);
             Check.due("disturb(31, 1)", code.disturb(31, 1), 1);
@@ -88,7 +93,6 @@ public final class BoundaryWordsTest {
     }
 
     private static void rankAtItsEnds() {
-        Check.sentence("9: rank: The rank of the word, 0 to 5.");
         rankIs(0, 0, 0, 0, 0, 0);
         for (int a = 1; a < 32; a++) {
             rankIs(1, a, 0, 0, 0, 0);
@@ -103,7 +107,6 @@ public final class BoundaryWordsTest {
     }
 
     private static void rankCountsNoSumOfZero() {
-        Check.sentence("Terms: no sum of one or more of these (each taken once) is 0");
         rankIs(3, 0, 1, 2, 4, 0);
         rankIs(4, 9, 9, 1, 2, 4);
         rankIs(4, 1, 9, 2, 4, 9);
@@ -122,8 +125,29 @@ public final class BoundaryWordsTest {
         Edges.answersAndKeeps(2, "distance(0, 0)", code -> code.distance(0, 0), want, symbols);
     }
 
+    private static void atMostOneWithinT() {
+        int[] withinTwo = {1, 1, 1, 0};
+        int[] withinOne = {1, 1, 0, 0};
+        for (int n = 0; n < Edges.WORDS.length; n++) {
+            int[] symbols = Edges.WORDS[n];
+            String title = "code words near " + Arrays.toString(symbols);
+            Check.due("K 1: " + title, countWithin(1, 2, symbols), withinTwo[n]);
+            Check.due("K 2: " + title, countWithin(2, 1, symbols), withinOne[n]);
+        }
+    }
+
+    private static int countWithin(int k, int limit, int[] symbols) {
+        int count = 0;
+        for (int m1 = 0; m1 < (k == 1 ? 1 : 32); m1++) {
+            RankMetricCode code = Check.withWord(k, symbols);
+            for (int m0 = 0; m0 < 32; m0++) {
+                count += code.distance(m0, m1) <= limit ? 1 : 0;
+            }
+        }
+        return count;
+    }
+
     private static void errorsAtMostT() {
-        Check.sentence("11: errors: The distance of the word from the nearest code word if that is at most T");
         for (int n = 0; n < 32; n++) {
             int m1 = 31 - n;
             errorsAre(1, 0, beside(n, 0, 0));
@@ -135,7 +159,6 @@ public final class BoundaryWordsTest {
     }
 
     private static void errorsElseNone() {
-        Check.sentence("11: errors: else NONE");
         for (int n = 0; n < 32; n++) {
             errorsAre(2, -4, beside(n, 31 - n, 2));
         }
@@ -147,7 +170,6 @@ public final class BoundaryWordsTest {
     }
 
     private static void errorsNearest() {
-        Check.sentence("11: errors: the nearest code word");
         // Distance 3 from the code word of 0, but 2 from that of 1.
         Edges.answersAndKeeps(1, "distance(0, 0)", code -> code.distance(0, 0), 3, 0, 2, 4, 8, 0);
         Edges.answersAndKeeps(1, "distance(1, 0)", code -> code.distance(1, 0), 2, 0, 2, 4, 8, 0);
@@ -174,7 +196,6 @@ public final class BoundaryWordsTest {
     }
 
     private static void messageOrder() {
-        Check.sentence("12: message: Tested in this order: BAD_ARG, then NONE");
         int[] far = {3, 9, 27, 14, 2};
         for (int k = 1; k <= 2; k++) {
             for (int bad : Edges.outside(0, k - 1)) {
@@ -184,7 +205,6 @@ public final class BoundaryWordsTest {
     }
 
     private static void messageNone() {
-        Check.sentence("12: message: no such code word answers NONE");
         Edges.answersAndKeeps(1, "message(0)", code -> code.message(0), -4, 3, 9, 27, 14, 2);
         Edges.answersAndKeeps(1, "message(0)", code -> code.message(0), -4, 0, 1, 4, 2, 0);
         for (int n = 0; n < 32; n++) {
@@ -195,7 +215,6 @@ public final class BoundaryWordsTest {
     }
 
     private static void messageAtT() {
-        Check.sentence("12: message: Element number i of the message whose code word has a distance of at most T");
         for (int n = 0; n < 32; n++) {
             int m0 = n;
             int m1 = 31 - n;
@@ -210,7 +229,6 @@ public final class BoundaryWordsTest {
     }
 
     private static void correctNone() {
-        Check.sentence("13: correct: NONE if there is none.");
         Edges.answersAndKeeps(1, "correct()", RankMetricCode::correct, -4, 3, 9, 27, 14, 2);
         Edges.answersAndKeeps(1, "correct()", RankMetricCode::correct, -4, 0, 1, 4, 2, 0);
         for (int n = 0; n < 32; n++) {
@@ -219,7 +237,6 @@ public final class BoundaryWordsTest {
     }
 
     private static void correctOldDistance() {
-        Check.sentence("13: correct: Otherwise its old distance.");
         for (int n = 0; n < 32; n++) {
             for (int far = 0; far <= 2; far++) {
                 corrects(1, far, beside(n, 0, far), Reference.codeWord(n, 0));
@@ -240,7 +257,6 @@ public final class BoundaryWordsTest {
     }
 
     private static void cleanCodeWord() {
-        Check.sentence("14: clean: Whether the word is a code word.");
         for (int n = 0; n < 32; n++) {
             cleanIs(1, true, Reference.codeWord(n, 0));
             cleanIs(2, true, Reference.codeWord(n, 31 - n));
@@ -267,7 +283,6 @@ public final class BoundaryWordsTest {
     }
 
     private static void coveringsOfCodeWord() {
-        Check.sentence("15: coverings: sets S, numbers 0 to 31: all of them if no symbol need change");
         for (int n = 0; n < 32; n++) {
             coveringsAre(1, 32, Reference.codeWord(n, 0));
             coveringsAre(2, 32, Reference.codeWord(n, 31 - n));
@@ -275,7 +290,6 @@ public final class BoundaryWordsTest {
     }
 
     private static void coveringsAtLeast() {
-        Check.sentence("15: coverings: the fewest: K symbols left alone can always be those of a code word");
         coveringsAre(1, 6, 1, 1, 1, 1, 1);
         coveringsAre(1, 6, 0, 1, 1, 1, 1);
         coveringsAre(2, 16, 1, 1, 1, 1, 1);
@@ -284,7 +298,6 @@ public final class BoundaryWordsTest {
     }
 
     private static void coveringsOnePlace() {
-        Check.sentence("15: coverings: digit i for place i");
         for (int i = 0; i < 5; i++) {
             for (int a = 1; a < 32; a += 6) {
                 int[] symbols = new int[5];
@@ -300,7 +313,6 @@ public final class BoundaryWordsTest {
     }
 
     private static void censusOfAllRanks() {
-        Check.sentence("16: census: How many code words have the rank r");
         int[] one = {1, 0, 0, 0, 0, 31};
         int[] two = {1, 0, 0, 0, 961, 62};
         for (int r = 0; r <= 5; r++) {

@@ -6,25 +6,27 @@ final class Check {
     private static int wrong = 0;
     private static int made = 0;
     private static int shown = 0;
-    private static int madeBeforeSentence = -1;
     private static String sentence = "";
 
     private Check() {
     }
 
-    /** What follows tests this sentence of the document, until the next one is named. */
-    static void sentence(String words) {
-        sentenceWasTested();
+    /** Runs the test of one sentence of the document; what it throws is its own fault alone. */
+    static void sentence(String words, Runnable test) {
         sentence = words;
-        madeBeforeSentence = made;
         shown = 0;
-    }
-
-    private static void sentenceWasTested() {
-        if (made == madeBeforeSentence) {
+        int madeBefore = made;
+        try {
+            test.run();
+        } catch (RuntimeException | Error e) {
             wrong++;
-            System.out.println("nothing was tested of: " + sentence);
+            System.out.println("[" + words + "] threw " + e);
         }
+        if (made == madeBefore) {
+            wrong++;
+            System.out.println("[" + words + "] nothing was tested");
+        }
+        sentence = "";
     }
 
     static void due(String call, int got, int want) {
@@ -59,7 +61,6 @@ final class Check {
     }
 
     static void end() {
-        sentenceWasTested();
         if (made == 0) {
             System.out.println("nothing was tested");
             System.exit(1);
