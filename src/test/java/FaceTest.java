@@ -29,7 +29,10 @@ public final class FaceTest {
         Set<String> names = new TreeSet<>();
         for (Method method : type.getDeclaredMethods()) {
             Check.due("one method alone is named " + method.getName(), names.add(method.getName()), true);
-            if (!Modifier.isPrivate(method.getModifiers())) {
+            if (Modifier.isPrivate(method.getModifiers())) {
+                Check.due(method + " is private, perhaps static, and nothing more",
+                        method.getModifiers() & ~Modifier.STATIC, Modifier.PRIVATE);
+            } else {
                 Check.due(method + " is public and nothing more", method.getModifiers(), Modifier.PUBLIC);
                 seen.add(face(method));
             }
@@ -46,15 +49,19 @@ public final class FaceTest {
     }
 
     private static void fields(Class<?> type) {
-        int open = 0;
+        Set<String> open = new TreeSet<>();
         for (Field field : type.getDeclaredFields()) {
             int modifiers = field.getModifiers();
             if (Modifier.isStatic(modifiers)) {
                 Check.due(field + " is an int constant",
                         Modifier.isFinal(modifiers) && field.getType() == int.class, true);
             }
-            open += Modifier.isPrivate(modifiers) ? 0 : 1;
+            if (!Modifier.isPrivate(modifiers)) {
+                Check.due(field + " is public", Modifier.isPublic(modifiers), true);
+                open.add(field.getName());
+            }
         }
-        Check.due("fields that are not private: BAD_ARG and NONE", open, 2);
+        Check.due("the fields that are not private are BAD_ARG and NONE: " + open,
+                open.equals(Set.of("BAD_ARG", "NONE")), true);
     }
 }
